@@ -1554,7 +1554,8 @@ public final class HiccupHill {
         }
 
         private void sayNamings(int t, int busy, int watched) {
-            for (int k = firstNaming[t]; k >= 0; k = nextNaming[k]) {
+            int k = firstNaming[t];
+            for (int left = plan.namings; left > 0 && k >= 0; left--) {
                 int who = plan.sayer[k];
                 if ((busy >> who & 1) == 0) {
                     said[k] = 1;
@@ -1563,6 +1564,7 @@ public final class HiccupHill {
                         spokeAt = t;
                     }
                 }
+                k = nextNaming[k];
             }
         }
 
