@@ -176,6 +176,9 @@ public final class PromiseTest {
         due("4: six nested", read(new HiccupHill(),
             "hill 1 1;answers : not [ not [ ( if 1 = 1 then 1 else 2 end ) = 1 ] ] and not [ 1 = 1 ];"), 2);
         due("4: six and six", read(new HiccupHill(), "hill 1 1;gaps : ((((((1)))))) + ((((((2))))));"), 2);
+        due("4: 900 tokens", read(new HiccupHill(), repeat(";", 900)), -32);
+        HiccupHill full = hill("hill 1 8;person 0;person 7;gaps:1" + repeat("+1", 427) + "-411;wind 1;");
+        due("4: a long law", full.between(0, 1, 0), 17);
         due("4: no blanks", read(new HiccupHill(), "hill1 1;person0loud1voice2;gaps:if 1=1then 2else 3end;"), 3);
     }
 
@@ -390,6 +393,14 @@ public final class PromiseTest {
         due("14: wind", x.count(4), 7);
         due("14: undone as one", x.undo(1), 0);
         due("14: wind again", x.count(4), 0);
+        long[] forty = new long[40];
+        for (int i = 0; i < 40; i++) {
+            forty[i] = 9000 + i % 10;
+        }
+        tray(x, 2, forty);
+        due("14: judged forty", x.judge(2, 0), -1);
+        due("14: forty", x.perform(2), 40);
+        due("14: forty undone as one", x.undo(1), 0);
         due("14: cell again", x.person(1, 0), 1);
         due("14: naming again", x.naming(0, 2), 10);
     }
@@ -720,6 +731,9 @@ public final class PromiseTest {
         tray(z, 0, 11);
         due("32: by all winds", z.winds(0, 1), 1023);
         due("32: it blows as ahead", z.count(4), 3);
+        HiccupHill late = hill(TWO + "names 0 1 at 98;");
+        tray(late, 0, 99);
+        due("32: to the last minute", late.winds(0, 1), 1023);
     }
 
     private static void promise33() {
