@@ -1,73 +1,9 @@
 /** For each promise of the document what it asks on plain hills, at its edges and of wrong calls, reckoned by hand. */
-public final class PromiseTest {
+public final class PromiseTest extends Checks {
     private static final String THREE = "hill 1 5;person 0 voice 2;person 1 voice 3;person 4 voice 4;"
         + "names 0 1 at 10;names 1 2 at 12;names 2 0 at 11;";
-    private static final String TWO = "hill 1 1;person 0;person 0;";
     private static final String LADDER = "hill 1 1;person 0;person 0;names 0 1 at 0;names 0 1 at 1;answers : 0=0;";
     private static final String SQUARE = "hill 3 3;person 0;person 0;person 6;";
-
-    private static int checks;
-    private static int wrong;
-
-    private static void due(String what, long got, long want) {
-        checks++;
-        if (got != want) {
-            wrong++;
-            System.out.println(what + ": answered " + got + ", due is " + want);
-        }
-    }
-
-    private static int feed(HiccupHill x, String text) {
-        StringBuilder b = new StringBuilder(text);
-        while (b.length() % 20 != 0) {
-            b.append('Z');
-        }
-        int fed = 0;
-        for (int i = 0; i < b.length(); i += 20) {
-            int[] v = new int[5];
-            for (int k = 0; k < 20; k++) {
-                v[k / 4] = v[k / 4] << 8 | b.charAt(i + k) & 255;
-            }
-            fed = x.feed(v[0], v[1], v[2], v[3], v[4]);
-        }
-        return fed;
-    }
-
-    private static int read(HiccupHill x, String text) {
-        feed(x, text);
-        return x.hill(text.length());
-    }
-
-    private static HiccupHill hill(String text) {
-        HiccupHill x = new HiccupHill();
-        int lines = read(x, text);
-        if (lines < 1) {
-            due("a hill of this test: " + text, lines, 1);
-        }
-        return x;
-    }
-
-    private static void fault(String text, int kind, int place) {
-        HiccupHill x = new HiccupHill();
-        due("hill() of " + text, read(x, text), -30 - kind);
-        due("fault(0) of " + text, x.fault(0), kind);
-        due("fault(1) of " + text, x.fault(1), place);
-    }
-
-    private static void tray(HiccupHill x, int tray, long... all) {
-        due("numbers()", x.numbers(tray, 3, all.length), 0);
-        for (int i = 0; i < all.length; i++) {
-            due("write()", x.write(tray, i, all[i]), all[i]);
-        }
-    }
-
-    private static String repeat(String part, int times) {
-        StringBuilder b = new StringBuilder();
-        for (int i = 0; i < times; i++) {
-            b.append(part);
-        }
-        return b.toString();
-    }
 
     private static void promise1() {
         HiccupHill x = new HiccupHill();
@@ -92,9 +28,9 @@ public final class PromiseTest {
         HiccupHill y = new HiccupHill();
         due("2: the highest byte first", y.feed(0x68696c6c, 0x20312031, 0x3b202020, 0x0a0a0a0a, 0x20202020), 20);
         due("2: it is read", y.hill(20), 1);
-        String full = "hill 1 1;wind 7;" + repeat(" ", 883) + ";";
+        String full = "hill 1 1;wind 7;" + " ".repeat(883) + ";";
         due("2: 900 bytes are read", read(new HiccupHill(), full), -32);
-        due("2: 900 bytes hold a hill", read(new HiccupHill(), "hill 1 1;wind 7" + repeat(" ", 884) + ";"), 2);
+        due("2: 900 bytes hold a hill", read(new HiccupHill(), "hill 1 1;wind 7" + " ".repeat(884) + ";"), 2);
     }
 
     private static void promise3() {
@@ -153,9 +89,9 @@ public final class PromiseTest {
         fault(TWO + "names 1 0 at 100;", 3, 40);
         fault(TWO + "names 1 0 at 99 sure 11;", 3, 48);
         fault("hill 1 1;wind 10;", 3, 14);
-        fault("hill 1 1;" + repeat("person 0;", 7), 4, 63);
-        fault(TWO + repeat("names 0 1 at 0;", 9), 4, 27 + 8 * 15);
-        fault(TWO + repeat("names 0 1 at 0;", 8) + "names;", 4, 147);
+        fault("hill 1 1;" + "person 0;".repeat(7), 4, 63);
+        fault(TWO + "names 0 1 at 0;".repeat(9), 4, 27 + 8 * 15);
+        fault(TWO + "names 0 1 at 0;".repeat(8) + "names;", 4, 147);
     }
 
     private static void promise4Laws() {
@@ -167,8 +103,8 @@ public final class PromiseTest {
         fault("hill 1 1;answers : (1 < 2);", 2, 22);
         fault("hill 1 1;gaps : - 1;", 2, 16);
         fault("hill 1 1;gaps : if 1 = 1 then 1 else 2;", 2, 38);
-        fault("hill 1 1;gaps : " + repeat("(", 7) + "1" + repeat(")", 7) + ";", 4, 22);
-        fault("hill 1 1;answers : " + repeat("not ", 7) + "1=1;", 4, 43);
+        fault("hill 1 1;gaps : " + "(".repeat(7) + "1" + ")".repeat(7) + ";", 4, 22);
+        fault("hill 1 1;answers : " + "not ".repeat(7) + "1=1;", 4, 43);
         fault("hill 1 1;answers : not [ not [ ( if [ 1 = 1 ] then 1 else 2 end ) = 1 ] ];", 4, 36);
         fault("hill 1 1;gaps : ((((((1 (", 2, 24);
         fault("hill 1 1;gaps : 1 +", 2, 19);
@@ -176,8 +112,8 @@ public final class PromiseTest {
         due("4: six nested", read(new HiccupHill(),
             "hill 1 1;answers : not [ not [ ( if 1 = 1 then 1 else 2 end ) = 1 ] ] and not [ 1 = 1 ];"), 2);
         due("4: six and six", read(new HiccupHill(), "hill 1 1;gaps : ((((((1)))))) + ((((((2))))));"), 2);
-        due("4: 900 tokens", read(new HiccupHill(), repeat(";", 900)), -32);
-        HiccupHill full = hill("hill 1 8;person 0;person 7;gaps:1" + repeat("+1", 427) + "-411;wind 1;");
+        due("4: 900 tokens", read(new HiccupHill(), ";".repeat(900)), -32);
+        HiccupHill full = hill("hill 1 8;person 0;person 7;gaps:1" + "+1".repeat(427) + "-411;wind 1;");
         due("4: a long law", full.between(0, 1, 0), 17);
         due("4: no blanks", read(new HiccupHill(), "hill1 1;person0loud1voice2;gaps:if 1=1then 2else 3end;"), 3);
     }
@@ -416,7 +352,7 @@ public final class PromiseTest {
         due("15: wind 0 is undone as well", x.count(5), 1);
         due("15: wind 7", x.week(Integer.MAX_VALUE, 1), 1);
         due("15: it blows", x.count(4), 7);
-        HiccupHill y = hill("hill 8 8;" + repeat("person 0;", 6));
+        HiccupHill y = hill("hill 8 8;" + "person 0;".repeat(6));
         due("15: three moves and a naming", y.week(1, 4), 4);
         due("15: moved 0", y.person(0, 0), 1);
         due("15: moved 3", y.person(3, 0), 59);
@@ -440,7 +376,7 @@ public final class PromiseTest {
         due("16: none behind 99, and as if sure", y.hiccups(1), 1);
         due("16: at 99", y.minute(1, 0), 99);
         due("16: fifty by fifty", hill("hill 1 1;person 0;person 0;gaps:1;answers:1=1;"
-            + repeat("names 0 1 at 0;", 8)).hiccups(-1), 400);
+            + "names 0 1 at 0;".repeat(8)).hiccups(-1), 400);
     }
 
     private static void promise17() {
@@ -529,7 +465,7 @@ public final class PromiseTest {
         due("22: nobody", new HiccupHill().nobody(), 0);
         due("22: one", hill(THREE).nobody(), 4);
         due("22: none", hill(LADDER).nobody(), 0);
-        due("22: all", hill("hill 1 1;" + repeat("person 0;", 6)).nobody(), 63);
+        due("22: all", hill("hill 1 1;" + "person 0;".repeat(6)).nobody(), 63);
     }
 
     private static void promise23() {
@@ -557,7 +493,7 @@ public final class PromiseTest {
         due("24: below", x.stops(-1, 0), -2);
         due("24: minute above", x.stops(0, 100), -3);
         due("24: minute below", x.stops(0, -1), -3);
-        HiccupHill y = hill(TWO + repeat("names 0 1 at 4;", 8));
+        HiccupHill y = hill(TWO + "names 0 1 at 4;".repeat(8));
         due("24: be there 8", y.stops(0, 9), 1);
         due("24: it has one anyhow", y.stops(1, 5), 100);
         due("24: who has a hiccup can't say it", y.stops(0, 6), 0);
@@ -628,7 +564,7 @@ public final class PromiseTest {
         silence(TWO + "names 0 1 at 10;names 0 1 at 15;", 0, 2, 901, 1401);
         silence(TWO + "names 0 1 at 15;names 0 1 at 10;", 0, 2, 901, 1401);
         silence(TWO + "names 0 1 at 10;names 0 1 at 15;names 0 1 at 18;", 0, -1, -1, -1);
-        silence(TWO + repeat("names 0 1 at 10;", 8), 0, 1, 901, -1);
+        silence(TWO + "names 0 1 at 10;".repeat(8), 0, 1, 901, -1);
         silence(TWO + "names 0 1 at 0;", 0, -1, -1, -1);
         silence(TWO + "names 0 1 at 20;", 0, 1, 1901, -1);
         silence(TWO + "names 0 1 at 21;", 0, -1, -1, -1);
@@ -724,7 +660,7 @@ public final class PromiseTest {
         due("32: no minute below", x.winds(0, 1), -3);
         tray(x, 0, 1, 1, 1, 1, 1, 1, 1, 1, 1);
         due("32: nine", x.winds(0, 1), -4);
-        HiccupHill y = hill(TWO + repeat("names 0 1 at 10;", 8) + gaps);
+        HiccupHill y = hill(TWO + "names 0 1 at 10;".repeat(8) + gaps);
         tray(y, 0, 15, 15, 15, 15, 15, 15, 15, 15);
         due("32: eight in one minute", y.winds(0, 1), 16);
         HiccupHill z = hill(TWO + "names 0 1 at 10;wind 3;");
@@ -750,7 +686,7 @@ public final class PromiseTest {
         due("33: one hangs on the other", y.chance(0, 0), 3);
         due("33: one hangs on the other, below", y.chance(0, 1), 10);
         due("33: the day is as if sure", y.naming(1, 4), 0);
-        HiccupHill z = hill(TWO + repeat("names 0 1 at 0 sure 1;", 8));
+        HiccupHill z = hill(TWO + "names 0 1 at 0 sure 1;".repeat(8));
         due("33: eight, above", z.chance(1, 0), 43046721);
         due("33: eight, below", z.chance(1, 1), 100000000);
         z.tell(0, 1, 0);
@@ -771,7 +707,7 @@ public final class PromiseTest {
         due("34: no such below", x.mean(-1, 0), -2);
         due("34: what", x.mean(0, 2), -2);
         due("34: what below", x.mean(0, -1), -2);
-        HiccupHill y = hill("hill 1 1;person 0;person 0;gaps:1;answers:1=1;" + repeat("names 0 1 at 0 sure 9;", 8));
+        HiccupHill y = hill("hill 1 1;person 0;person 0;gaps:1;answers:1=1;" + "names 0 1 at 0 sure 9;".repeat(8));
         due("34: 25 each of them, above", y.mean(1, 0), 180);
         due("34: 25 each of them, below", y.mean(1, 1), 1);
         HiccupHill z = hill(TWO + "names 0 1 at 0 sure 3;names 1 0 at 1;");
