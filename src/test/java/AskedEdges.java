@@ -48,6 +48,7 @@ final class AskedEdges extends Checks {
         due("of none among others' HICCUPS", among.stops(0, 10), 2);
         due("of one ahead of another one's", among.stops(1, 10), 200);
         due("of one behind another one's", among.stops(2, 10), 200);
+        due("of none beside a lesser one's", hill(THREE + "names 2 0 at 9;").stops(1, 10), 2);
         HiccupHill y = hill(TWO + "gaps : 20;");
         due("MINUTE 19", y.stops(0, 19), 0);
         due("MINUTE 20", y.stops(0, 20), 1);
