@@ -1,3 +1,4 @@
+import java.lang.reflect.Array;
 import java.lang.reflect.Constructor;
 import java.lang.reflect.Field;
 import java.lang.reflect.Method;
@@ -5,6 +6,8 @@ import java.lang.reflect.Modifier;
 import java.nio.file.Files;
 import java.nio.file.Path;
 import java.util.Arrays;
+import java.util.Collections;
+import java.util.IdentityHashMap;
 import java.util.List;
 import java.util.Set;
 import java.util.TreeSet;
@@ -105,6 +108,61 @@ public final class LanguageTest {
         need(!code.contains("package "), "no package");
     }
 
+    /** All static calls are of the library's few that are used, which make nothing. */
+    private static void library(String source) {
+        Matcher m = Pattern.compile("\\b(?:String|StringBuilder|Integer|Long|Math|System|Arrays|List)\\.\\w+")
+            .matcher(source);
+        Set<String> few = Set.of("Arrays.fill", "Math.abs", "Math.max", "Math.min", "System.arraycopy");
+        while (m.find()) {
+            need(few.contains(m.group()), "4: " + m.group());
+        }
+    }
+
+    /** What is made is made with the object: in its fields and constructors, so that no call makes anything. */
+    private static void makings(List<String> lines) {
+        boolean maker = false;
+        for (String line : lines) {
+            Matcher head = Pattern.compile("^(?: {4}| {8})(?:[\\w\\[\\]]+ )*(\\w+)\\([^=]*\\) \\{$").matcher(line);
+            if (head.matches()) {
+                maker = Character.isUpperCase(head.group(1).charAt(0));
+            }
+            boolean field = line.matches("^(?: {4}| {8})(?:private |final |private final )[\\w\\[\\]]+ \\w+ = new .*;$");
+            boolean kept = line.matches("^ {12,16}\\w+\\[i\\] = new \\w+\\(\\);$") && maker;
+            need(field || kept || !line.matches(".*\\bnew\\b.*") || line.strip().matches("(?://|\\*|/\\*).*"),
+                "12: made in a call: " + line.strip());
+        }
+    }
+
+    /** Fields and elements of an object and of all that it holds. */
+    private static int places(Object of, Set<Object> seen) throws IllegalAccessException {
+        if (of == null || of instanceof String || !seen.add(of)) {
+            return 0;
+        }
+        int sum = 0;
+        if (of.getClass().isArray()) {
+            sum = Array.getLength(of);
+            for (int i = 0; i < Array.getLength(of) && !of.getClass().getComponentType().isPrimitive(); i++) {
+                sum += places(Array.get(of, i), seen);
+            }
+            return sum;
+        }
+        for (Field f : of.getClass().getDeclaredFields()) {
+            if (!Modifier.isStatic(f.getModifiers())) {
+                f.setAccessible(true);
+                sum += 1 + (f.getType().isPrimitive() ? 0 : places(f.get(of), seen));
+            }
+        }
+        return sum;
+    }
+
+    /** The room has 600,000 objects and 7.3 million places; a run that makes an object for each of 400 calls has it. */
+    private static void room() throws IllegalAccessException {
+        Set<Object> seen = Collections.newSetFromMap(new IdentityHashMap<>());
+        int places = places(new HiccupHill(), seen);
+        need(places <= 18000, "room: " + places + " places an object");
+        need(seen.size() <= 1500, "room: " + seen.size() + " objects and arrays an object");
+    }
+
     public static void main(String[] args) throws Exception {
         String source = Files.readString(Path.of(args[0]));
         face(Files.readString(Path.of(args[1])));
@@ -115,6 +173,9 @@ public final class LanguageTest {
         need(HiccupHill.class.getDeclaredClasses().length <= 11, "11: classes");
         lengths(source.lines().toList());
         words(source);
+        library(source);
+        makings(source.lines().toList());
+        room();
         System.out.println(wrong == 0 ? "the language is kept, as far as it is seen" : wrong + " against the language");
         if (wrong != 0) {
             System.exit(1);
